@@ -16,6 +16,7 @@ public final class ConditionEscrow {
     private static final int SIGNERS = 8;
     private static final int MAX_NODES = 24;
     private static final int MAX_INPUTS = 6;
+    private static final int ALL_INPUTS = MAX_NODES * MAX_INPUTS;
     private static final int MAX_DEALS = 12;
     private static final int MAX_DEPOSITS = 40;
     private static final int MAX_AMOUNT = 1000;
@@ -57,8 +58,8 @@ public final class ConditionEscrow {
     private final int[] windowOpens = new int[MAX_NODES];
     private final int[] inputCounts = new int[MAX_NODES];
     // The inputs of gate g stand from g * MAX_INPUTS on.
-    private final int[] inputNodes = new int[MAX_NODES * MAX_INPUTS];
-    private final int[] inputWeights = new int[MAX_NODES * MAX_INPUTS];
+    private final int[] inputNodes = new int[ALL_INPUTS];
+    private final int[] inputWeights = new int[ALL_INPUTS];
 
     private int dealCount;
     private final int[] payers = new int[MAX_DEALS];
@@ -277,8 +278,8 @@ public final class ConditionEscrow {
         if (!isDeal(deal)) return -1;
         int release = releaseNodes[deal];
         if (release == NO_NODE) return -2;
-        for (int wait = 0; wait <= FORECAST_DAYS; wait++) {
-            int day = currentDay + wait;
+        for (int ahead = 0; ahead <= FORECAST_DAYS; ahead++) {
+            int day = currentDay + ahead;
             int truths = truthsOn(day);
             if (isIn(truths, release)) return day;
         }

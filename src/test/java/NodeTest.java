@@ -19,6 +19,7 @@ public final class NodeTest {
         promise15AfterAndWindowFollowTheDay();
         promise16Score();
         promise16ScoreMayBeNegative();
+        promise16ScoreOfFullGates();
         gatesOverGates();
         Checks.end();
     }
@@ -270,6 +271,19 @@ public final class NodeTest {
         Checks.due("truth(1) below a threshold of -20", x.truth(1), 0);
         x.link(1, 0, -5);
         Checks.due("score(1)", x.score(1), -26);
+    }
+
+    private static void promise16ScoreOfFullGates() {
+        ConditionEscrow x = new ConditionEscrow(2);
+        x.after(0);
+        for (int gate = 1; gate < 24; gate++) x.gate(0);
+        for (int gate = 1; gate < 24; gate++) {
+            for (int i = 0; i < 6; i++) Checks.due("link(" + gate + ", 0, ..)", x.link(gate, 0, gate % 5 + 1), 0);
+            Checks.due("link(" + gate + ", 0, 1) on a full gate", x.link(gate, 0, 1), -4);
+        }
+        for (int gate = 1; gate < 24; gate++) {
+            Checks.due("score(" + gate + ") with 6 inputs", x.score(gate), 6 * (gate % 5 + 1));
+        }
     }
 
     private static void gatesOverGates() {
