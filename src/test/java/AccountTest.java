@@ -1,186 +1,239 @@
-/** Promises 1, 13, 19, 21 to 29: accounts, the entry list, and the questions that look back or ahead. */
+/** Promises 1, 13, 19 and 21 to 29, sentence by sentence: accounts, entries, and the questions that look back or ahead. */
 public final class AccountTest {
-    private static final int MIN = Integer.MIN_VALUE;
-    private static final int MAX = Integer.MAX_VALUE;
-
     public static void main(String[] args) {
-        promise1NewObject();
-        promise1AccountsAreHeldBetween2And6();
-        promise13Today();
-        promise19Balance();
-        promises21To26Entries();
-        promises22To26NoSuchEntry();
-        entriesMayBe64();
-        promise27BalanceOn();
-        promise27BalanceOnOfAnyDay();
-        promise28Lowest();
-        promise28LowestRefuses();
-        promise29ForecastRefuses();
-        promise29ForecastOfDays();
-        promise29ForecastReaches200Days();
-        promise29ForecastWhateverTheState();
-        promise29ForecastKeepsMarks();
-        objectsAreApart();
+        Checks.promise(1, "below 2 becomes 2", AccountTest::tooFewAccounts);
+        Checks.promise(1, "above 6 becomes 6", AccountTest::tooManyAccounts);
+        Checks.promise(13, "The number of today", AccountTest::todayFromFirstToLast);
+        Checks.promise(19, "The account's balance", AccountTest::balanceFollowsTheMoves);
+        Checks.promise(19, "The account's balance", AccountTest::balanceMayReach40000);
+        Checks.promise(19, "-1 if there is no such account", AccountTest::balanceOfNoAccount);
+        Checks.promise(21, "How many entries there are", AccountTest::entriesFromNoneOn);
+        Checks.promise(22, "The kind of entry i", AccountTest::kindsOfEntries);
+        Checks.promise(22, "-1 if there is no such entry", () -> noSuchEntry("entryKind", -1));
+        Checks.promise(23, "The account of entry i", AccountTest::accountsOfEntries);
+        Checks.promise(23, "-1 if there is no such entry", () -> noSuchEntry("entryAccount", -1));
+        Checks.promise(24, "The amount of entry i", AccountTest::amountsOfEntries);
+        Checks.promise(24, "-1 if there is no such entry", () -> noSuchEntry("entryAmount", -1));
+        Checks.promise(25, "The number of the deal of entry i, -1 for a deposit", AccountTest::dealsOfEntries);
+        Checks.promise(25, "-2 if there is no such entry", () -> noSuchEntry("entryDeal", -2));
+        Checks.promise(26, "The day of entry i", AccountTest::daysOfEntries);
+        Checks.promise(26, "-1 if there is no such entry", () -> noSuchEntry("entryDay", -1));
+        Checks.promise(27, "after all entries up to and with the given day", AccountTest::balanceOnDaysOfEntries);
+        Checks.promise(27, "any int", AccountTest::balanceOnAnyInt);
+        Checks.promise(27, "0 for days before the first entry", AccountTest::balanceBeforeTheFirstEntry);
+        Checks.promise(27, "the balance now for days from today on", AccountTest::balanceFromTodayOn);
+        Checks.promise(27, "-1 if there is no such account", AccountTest::balanceOnOfNoAccount);
+        Checks.promise(28, "The least balance that the account had after the first k entries", AccountTest::lowestOfEveryRange);
+        Checks.promise(28, "over all k in i .. j", AccountTest::lowestTakesBothEnds);
+        Checks.promise(28, "over all k in i .. j", AccountTest::lowestOfOneK);
+        Checks.promise(28, "-1 if there is no such account", AccountTest::lowestOfNoAccount);
+        Checks.promise(28, "-2 unless 0 <= i <= j <= entries()", AccountTest::lowestFromBelowZero);
+        Checks.promise(28, "-2 unless 0 <= i <= j <= entries()", AccountTest::lowestOfNoRange);
+        Checks.promise(28, "-2 unless 0 <= i <= j <= entries()", AccountTest::lowestPastTheEntries);
+        Checks.promise(28, "-2 unless 0 <= i <= j <= entries()", AccountTest::lowestWithoutEntries);
+        Checks.promise(29, "The first day t in today .. today + 200", AccountTest::forecastOfToday);
+        Checks.promise(29, "The first day t in today .. today + 200", AccountTest::forecastOfTheFirstDay);
+        Checks.promise(29, "The first day t in today .. today + 200", AccountTest::forecastIn200Days);
+        Checks.promise(29, "The first day t in today .. today + 200", AccountTest::forecastPastDay2000);
+        Checks.promise(29, "on which the deal's release node would be true", AccountTest::forecastIsOfTheReleaseNode);
+        Checks.promise(29, "if all marks, nodes and inputs stayed as they are now", AccountTest::forecastKeepsMarksAndInputs);
+        Checks.promise(29, "the deal's state plays no part", AccountTest::forecastInEveryState);
+        Checks.promise(29, "-1 if there is no such deal", AccountTest::forecastOfNoDeal);
+        Checks.promise(29, "-2 if it never got terms", AccountTest::forecastWithoutTerms);
+        Checks.promise(29, "-3 if there is no such day", AccountTest::forecastOfNever);
         Checks.end();
     }
 
-    private static void promise1NewObject() {
-        ConditionEscrow x = new ConditionEscrow(4);
-        Checks.due("today()", x.today(), 0);
-        Checks.due("nodes()", x.nodes(), 0);
-        Checks.due("deals()", x.deals(), 0);
-        Checks.due("held()", x.held(), 0);
-        Checks.due("entries()", x.entries(), 0);
-        for (int account = 0; account < 4; account++) Checks.due("balance(" + account + ")", x.balance(account), 0);
-        Checks.due("balance(4)", x.balance(4), -1);
+    private static void twoAccountsOf(int accounts) {
+        Calls x = new Calls(accounts);
+        x.due(0, "balance(0) balance(1) deposit(1, 3) offer(0, 1, 3)");
+        x.due(-1, "balance(2) deposit(2, 3) offer(0, 2, 3)");
     }
 
-    private static void promise1AccountsAreHeldBetween2And6() {
-        int[] asked = {MIN, -1, 0, 1, 2, 3, 4, 5, 6, 7, 100, MAX};
-        int[] given = {2, 2, 2, 2, 2, 3, 4, 5, 6, 6, 6, 6};
-        for (int i = 0; i < asked.length; i++) {
-            ConditionEscrow x = new ConditionEscrow(asked[i]);
-            int last = given[i] - 1;
-            Checks.due("balance(" + last + ") of " + asked[i] + " accounts", x.balance(last), 0);
-            Checks.due("balance(" + given[i] + ") of " + asked[i] + " accounts", x.balance(given[i]), -1);
-            Checks.due("deposit in the last of " + asked[i] + " accounts", x.deposit(last, 3), 0);
-            Checks.due("deposit past the last of " + asked[i] + " accounts", x.deposit(given[i], 3), -1);
-            Checks.due("offer to the last of " + asked[i] + " accounts", x.offer(0, last, 3), 0);
-            Checks.due("balance(" + last + ")", x.balance(last), 3);
+    private static void tooFewAccounts() {
+        int[] asked = {1, 0, -1, -6, Integer.MIN_VALUE, Integer.MIN_VALUE + 2};
+        for (int accounts : asked) twoAccountsOf(accounts);
+        twoAccountsOf(2);
+    }
+
+    private static void sixAccountsOf(int accounts) {
+        Calls x = new Calls(accounts);
+        x.due(0, "balance(0) balance(5) deposit(5, 3) offer(0, 5, 3)");
+        x.due(-1, "balance(6) deposit(6, 3) offer(0, 6, 3)");
+    }
+
+    private static void tooManyAccounts() {
+        int[] asked = {7, 8, 100, Integer.MAX_VALUE};
+        for (int accounts : asked) sixAccountsOf(accounts);
+        sixAccountsOf(6);
+    }
+
+    private static void todayFromFirstToLast() {
+        Calls x = new Calls(2);
+        x.due(0, "today()");
+        x.taken("advance(1)");
+        x.due(1, "today()");
+        x.taken("deposit(0, 1) mark(0, 1) after(1)");
+        x.due(1, "today()");
+        x.taken("advance(60)");
+        x.due(61, "today()");
+        x.untilDay(2000);
+        x.due(2000, "today()");
+    }
+
+    private static void balanceFollowsTheMoves() {
+        Calls x = new Calls(3);
+        x.taken("signer(0) signer(1) offer(0, 1, 30) offer(0, 2, 20) terms(0, 0, 1) terms(1, 1, 0) deposit(0, 49)");
+        x.due(19, "balance(0)");
+        x.taken("deposit(0, 1)");
+        x.due(0, "balance(0) balance(1) balance(2)");
+        x.taken("mark(0, 1)");
+        x.due(20, "balance(0)");
+        x.due(30, "balance(1)");
+        x.due(0, "balance(2)");
+    }
+
+    private static void balanceMayReach40000() {
+        Calls x = new Calls(2);
+        for (int count = 1; count <= 40; count++) {
+            x.taken("deposit(1, 1000)");
+            x.due(1000 * count, "balance(1)");
         }
+        x.due(0, "balance(0)");
+        x.due(40000, "balanceOn(1, 0) lowest(1, 40, 40)");
     }
 
-    private static void promise13Today() {
-        ConditionEscrow x = new ConditionEscrow(2);
-        Checks.due("today()", x.today(), 0);
-        x.advance(7);
-        Checks.due("today()", x.today(), 7);
-        x.deposit(0, 1);
-        x.mark(0, 1);
-        Checks.due("today() after other calls", x.today(), 7);
-        x.advance(60);
-        Checks.due("today()", x.today(), 67);
+    private static void balanceOfNoAccount() {
+        Calls x = new Calls(3);
+        x.due(-1, "balance(-1) balance(3) balance(5) balance(6) balance(MIN) balance(MAX)");
+        x.due(0, "balance(0) balance(2)");
     }
 
-    private static void promise19Balance() {
-        ConditionEscrow x = new ConditionEscrow(3);
-        int[] noAccounts = {-1, 3, 6, MIN, MAX};
-        for (int account : noAccounts) Checks.due("balance(" + account + ")", x.balance(account), -1);
-        x.signer(0);
-        x.signer(1);
-        x.offer(0, 1, 30);
-        x.offer(0, 2, 20);
-        x.terms(0, 0, 1);
-        x.terms(1, 1, 0);
-        x.deposit(0, 50);
-        Checks.due("balance(0) after funding", x.balance(0), 0);
-        x.mark(0, 1);
-        Checks.due("balance(0) after the refund", x.balance(0), 20);
-        Checks.due("balance(1) after the release", x.balance(1), 30);
-        Checks.due("balance(2)", x.balance(2), 0);
+    private static void entriesFromNoneOn() {
+        Calls x = new Calls(2);
+        x.taken("signer(0) gate(1) offer(0, 1, 5)");
+        x.due(0, "entries()");
+        x.taken("deposit(0, 5)");
+        x.due(1, "entries()");
+        x.taken("terms(0, 0, 1)");
+        x.due(2, "entries()");
+        x.taken("mark(0, 1)");
+        x.due(3, "entries()");
+        x.taken("mark(0, 0) advance(1) offer(0, 1, 5) cancel(1)");
+        x.due(3, "entries()");
     }
 
-    /** Six entries: four days, all four kinds, on accounts 0 to 2. */
-    private static ConditionEscrow withSixEntries() {
-        ConditionEscrow x = new ConditionEscrow(4);
-        x.after(5);
-        x.after(8);
-        x.gate(1);
-        x.offer(0, 1, 30);
-        x.offer(1, 2, 25);
-        x.terms(0, 0, 2);
-        x.terms(1, 2, 1);
-        x.advance(2);
-        x.deposit(0, 40);
-        x.advance(10);
-        x.deposit(2, 7);
+    /** Six entries: four days, all four kinds, on accounts 0 to 2 of 4; today is day 12. */
+    private static Calls withSixEntries() {
+        Calls x = new Calls(4);
+        x.taken("after(5) after(8) gate(1) offer(0, 1, 30) offer(1, 2, 25) terms(0, 0, 2) terms(1, 2, 1)");
+        x.taken("advance(2) deposit(0, 40) advance(10) deposit(2, 7)");
+        x.due(6, "entries()");
         return x;
     }
 
-    private static void promises21To26Entries() {
-        ConditionEscrow x = withSixEntries();
-        int[] kinds = {0, 1, 2, 1, 3, 0};
-        int[] accounts = {0, 0, 1, 1, 1, 2};
-        int[] amounts = {40, 30, 30, 25, 25, 7};
-        int[] deals = {-1, 0, 0, 1, 1, -1};
-        int[] days = {2, 2, 5, 5, 8, 12};
-        Checks.due("entries()", x.entries(), kinds.length);
-        for (int i = 0; i < kinds.length; i++) {
-            Checks.due("entryKind(" + i + ")", x.entryKind(i), kinds[i]);
-            Checks.due("entryAccount(" + i + ")", x.entryAccount(i), accounts[i]);
-            Checks.due("entryAmount(" + i + ")", x.entryAmount(i), amounts[i]);
-            Checks.due("entryDeal(" + i + ")", x.entryDeal(i), deals[i]);
-            Checks.due("entryDay(" + i + ")", x.entryDay(i), days[i]);
+    private static void dueOfEntries(String question, int... wants) {
+        Calls x = withSixEntries();
+        for (int i = 0; i < wants.length; i++) x.due(wants[i], question + "(" + i + ")");
+    }
+
+    private static void kindsOfEntries() {
+        int deposit = ConditionEscrow.DEPOSIT;
+        int fund = ConditionEscrow.FUND;
+        dueOfEntries("entryKind", deposit, fund, ConditionEscrow.RELEASE, fund, ConditionEscrow.REFUND, deposit);
+    }
+
+    private static void accountsOfEntries() {
+        dueOfEntries("entryAccount", 0, 0, 1, 1, 1, 2);
+    }
+
+    private static void amountsOfEntries() {
+        dueOfEntries("entryAmount", 40, 30, 30, 25, 25, 7);
+    }
+
+    private static void dealsOfEntries() {
+        dueOfEntries("entryDeal", -1, 0, 0, 1, 1, -1);
+    }
+
+    private static void daysOfEntries() {
+        dueOfEntries("entryDay", 2, 2, 5, 5, 8, 12);
+    }
+
+    private static void noSuchEntry(String question, int want) {
+        int[] never = {-1, 64, 65, Integer.MIN_VALUE, Integer.MAX_VALUE};
+        Calls[] objects = {new Calls(2), withSixEntries(), withAllEntries()};
+        int[] counts = {0, 6, 64};
+        for (int k = 0; k < objects.length; k++) {
+            objects[k].due(want, question + "(" + counts[k] + ")");
+            for (int i : never) objects[k].due(want, question + "(" + i + ")");
+            if (k > 0) Checks.holds("there is a last entry for " + question, objects[k].answer(question, counts[k] - 1) != want);
         }
     }
 
-    private static void promises22To26NoSuchEntry() {
-        int[] fresh = {-1, 0, 1, 63, 64, MIN, MAX};
-        noSuchEntries(new ConditionEscrow(2), fresh);
-        int[] used = {-1, 6, 7, 63, 64, MIN, MAX};
-        noSuchEntries(withSixEntries(), used);
+    /** 40 deposits and 24 moves; the last entry is the release of deal 11 on day 0. */
+    private static Calls withAllEntries() {
+        Calls x = new Calls(2);
+        x.taken("signer(0) gate(1)");
+        for (int deal = 0; deal < 12; deal++) x.taken("offer(0, 1, 1000) terms(" + deal + ", 0, 1)");
+        x.taken(40, "deposit(0, 1000)");
+        x.due(12, "mark(0, 1)");
+        x.due(64, "entries()");
+        return x;
     }
 
-    private static void noSuchEntries(ConditionEscrow x, int[] entries) {
-        for (int i : entries) {
-            Checks.due("entryKind(" + i + ")", x.entryKind(i), -1);
-            Checks.due("entryAccount(" + i + ")", x.entryAccount(i), -1);
-            Checks.due("entryAmount(" + i + ")", x.entryAmount(i), -1);
-            Checks.due("entryDeal(" + i + ")", x.entryDeal(i), -2);
-            Checks.due("entryDay(" + i + ")", x.entryDay(i), -1);
-        }
-    }
-
-    private static void entriesMayBe64() {
-        ConditionEscrow x = new ConditionEscrow(2);
-        x.signer(0);
-        x.gate(1);
-        for (int deal = 0; deal < 12; deal++) x.offer(0, 1, 1000);
-        for (int deal = 0; deal < 12; deal++) x.terms(deal, 0, 1);
-        for (int i = 0; i < 40; i++) Checks.due("deposit " + i, x.deposit(0, 1000), i < 12 ? 1 : 0);
-        Checks.due("held()", x.held(), 12000);
-        Checks.due("mark(0, 1)", x.mark(0, 1), 12);
-        Checks.due("entries()", x.entries(), 64);
-        Checks.due("entryKind(63)", x.entryKind(63), ConditionEscrow.RELEASE);
-        Checks.due("entryDeal(63)", x.entryDeal(63), 11);
-        Checks.due("entryKind(64)", x.entryKind(64), -1);
-        Checks.due("balance(0)", x.balance(0), 28000);
-        Checks.due("balance(1)", x.balance(1), 12000);
-        Checks.due("balanceOn(1, 0)", x.balanceOn(1, 0), 12000);
-        Checks.due("lowest(0, 24, 64)", x.lowest(0, 24, 64), 0);
-        Checks.due("lowest(0, 64, 64)", x.lowest(0, 64, 64), 28000);
-        Checks.due("lowest(0, 64, 65)", x.lowest(0, 64, 65), -2);
-    }
-
-    private static void promise27BalanceOn() {
-        ConditionEscrow x = withSixEntries();
-        int[] noAccounts = {-1, 4, 6, MIN, MAX};
-        for (int account : noAccounts) Checks.due("balanceOn(" + account + ", 5)", x.balanceOn(account, 5), -1);
-        int[] days = {-1, 0, 1, 2, 4, 5, 7, 8, 11, 12, 13};
-        int[] first = {0, 0, 0, 10, 10, 10, 10, 10, 10, 10, 10};
-        int[] second = {0, 0, 0, 0, 0, 5, 5, 30, 30, 30, 30};
-        int[] third = {0, 0, 0, 0, 0, 0, 0, 0, 0, 7, 7};
-        for (int i = 0; i < days.length; i++) {
-            Checks.due("balanceOn(0, " + days[i] + ")", x.balanceOn(0, days[i]), first[i]);
-            Checks.due("balanceOn(1, " + days[i] + ")", x.balanceOn(1, days[i]), second[i]);
-            Checks.due("balanceOn(2, " + days[i] + ")", x.balanceOn(2, days[i]), third[i]);
-            Checks.due("balanceOn(3, " + days[i] + ")", x.balanceOn(3, days[i]), 0);
-        }
-    }
-
-    private static void promise27BalanceOnOfAnyDay() {
-        ConditionEscrow x = withSixEntries();
+    private static void balanceOnDaysOfEntries() {
+        Calls x = withSixEntries();
+        int[] days = {0, 1, 2, 3, 4, 5, 6, 7, 8, 9, 11, 12};
+        int[][] balances = {
+            {0, 0, 10, 10, 10, 10, 10, 10, 10, 10, 10, 10},
+            {0, 0, 0, 0, 0, 5, 5, 5, 30, 30, 30, 30},
+            {0, 0, 0, 0, 0, 0, 0, 0, 0, 0, 0, 7},
+            {0, 0, 0, 0, 0, 0, 0, 0, 0, 0, 0, 0},
+        };
         for (int account = 0; account < 4; account++) {
-            Checks.due("balanceOn(" + account + ", MIN)", x.balanceOn(account, MIN), 0);
-            Checks.due("balanceOn(" + account + ", MAX)", x.balanceOn(account, MAX), x.balance(account));
-            Checks.due("balanceOn(" + account + ", today)", x.balanceOn(account, x.today()), x.balance(account));
+            for (int i = 0; i < days.length; i++) x.due(balances[account][i], "balanceOn(" + account + ", " + days[i] + ")");
         }
-        ConditionEscrow fresh = new ConditionEscrow(2);
-        Checks.due("balanceOn(0, 0) of a new object", fresh.balanceOn(0, 0), 0);
     }
 
-    private static void promise28Lowest() {
-        ConditionEscrow x = withSixEntries();
+    private static void balanceOnAnyInt() {
+        Calls x = withSixEntries();
+        x.due(0, "balanceOn(0, MIN) balanceOn(0, -2147483647) balanceOn(0, -2000) balanceOn(0, -1)");
+        x.due(10, "balanceOn(0, 2000) balanceOn(0, 2001) balanceOn(0, 2147483646) balanceOn(0, MAX)");
+    }
+
+    private static void balanceBeforeTheFirstEntry() {
+        Calls x = new Calls(2);
+        x.due(0, "balanceOn(0, 0) balanceOn(0, -1) balanceOn(0, 1) balanceOn(0, MIN) balanceOn(0, MAX)");
+        x.taken("advance(9) deposit(0, 40) advance(3)");
+        x.due(0, "balanceOn(0, 8) balanceOn(0, 0) balanceOn(0, -1) balanceOn(0, MIN)");
+        x.due(40, "balanceOn(0, 9) balanceOn(0, 10)");
+        // An entry on day 0 leaves only the days below 0 before it.
+        Calls y = new Calls(2);
+        y.taken("deposit(0, 40)");
+        y.due(0, "balanceOn(0, -1) balanceOn(0, MIN)");
+        y.due(40, "balanceOn(0, 0)");
+    }
+
+    private static void balanceFromTodayOn() {
+        Calls x = withSixEntries();
+        x.taken("deposit(1, 3)");
+        for (int account = 0; account < 4; account++) {
+            int now = x.answer("balance", account);
+            x.due(now, "balanceOn(" + account + ", 12) balanceOn(" + account + ", 13) balanceOn(" + account + ", MAX)");
+        }
+        x.due(30, "balanceOn(1, 11)");
+        x.due(33, "balanceOn(1, 12)");
+    }
+
+    private static void balanceOnOfNoAccount() {
+        Calls x = withSixEntries();
+        x.due(-1, "balanceOn(-1, 5) balanceOn(4, 5) balanceOn(6, 5) balanceOn(MIN, 5) balanceOn(MAX, 5)");
+        x.due(-1, "balanceOn(-1, MIN) balanceOn(4, MAX)");
+        x.due(0, "balanceOn(3, 5)");
+    }
+
+    private static void lowestOfEveryRange() {
+        Calls x = withSixEntries();
         int[][] balances = {
             {0, 40, 10, 10, 10, 10, 10},
             {0, 0, 0, 30, 5, 30, 30},
@@ -192,134 +245,186 @@ public final class AccountTest {
                 int least = balances[account][i];
                 for (int j = i; j <= 6; j++) {
                     least = Math.min(least, balances[account][j]);
-                    Checks.due("lowest(" + account + ", " + i + ", " + j + ")", x.lowest(account, i, j), least);
+                    x.due(least, "lowest(" + account + ", " + i + ", " + j + ")");
                 }
             }
         }
     }
 
-    private static void promise28LowestRefuses() {
-        ConditionEscrow x = withSixEntries();
-        int[] noAccounts = {-1, 4, 6, MIN, MAX};
-        for (int account : noAccounts) {
-            Checks.due("lowest(" + account + ", 0, 0)", x.lowest(account, 0, 0), -1);
-            Checks.due("lowest(" + account + ", 1, 0)", x.lowest(account, 1, 0), -1);
-        }
-        int[][] wrong = {{-1, 0}, {-1, -1}, {1, 0}, {6, 5}, {0, 7}, {7, 7}, {7, 6}, {MIN, 0}, {0, MAX}, {MAX, MAX}, {MAX, MIN}, {MIN, MAX}, {0, MIN}};
-        for (int[] pair : wrong) Checks.due("lowest(0, " + pair[0] + ", " + pair[1] + ")", x.lowest(0, pair[0], pair[1]), -2);
-        ConditionEscrow fresh = new ConditionEscrow(2);
-        Checks.due("lowest(0, 0, 0) of a new object", fresh.lowest(0, 0, 0), 0);
-        Checks.due("lowest(0, 0, 1) of a new object", fresh.lowest(0, 0, 1), -2);
+    private static void lowestTakesBothEnds() {
+        Calls x = withSixEntries();
+        // Account 1 has 30 after three entries, 5 after four, 30 after five.
+        x.due(5, "lowest(1, 4, 5) lowest(1, 3, 4) lowest(1, 3, 5)");
+        x.due(30, "lowest(1, 3, 3) lowest(1, 5, 6)");
+        x.due(0, "lowest(1, 2, 5) lowest(0, 0, 6)");
+        x.due(7, "lowest(2, 6, 6)");
+        x.due(0, "lowest(2, 5, 6)");
     }
 
-    private static void promise29ForecastRefuses() {
-        ConditionEscrow x = new ConditionEscrow(2);
-        Checks.due("forecast(0) without deals", x.forecast(0), -1);
-        x.gate(1);
-        x.after(0);
-        x.offer(0, 1, 5);
-        x.offer(0, 1, 5);
-        int[] noDeals = {-1, 2, 12, MIN, MAX};
-        for (int deal : noDeals) Checks.due("forecast(" + deal + ")", x.forecast(deal), -1);
-        Checks.due("forecast(0) of a draft", x.forecast(0), -2);
-        x.cancel(0);
-        Checks.due("forecast(0) of a cancelled draft", x.forecast(0), -2);
-        x.terms(1, 0, 1);
-        Checks.due("forecast(1): never", x.forecast(1), -3);
+    private static void lowestOfOneK() {
+        Calls x = withSixEntries();
+        int[] balances = {0, 40, 10, 10, 10, 10, 10};
+        for (int k = 0; k <= 6; k++) x.due(balances[k], "lowest(0, " + k + ", " + k + ")");
     }
 
-    private static void promise29ForecastOfDays() {
-        ConditionEscrow x = new ConditionEscrow(2);
-        x.window(7, 2);
-        x.after(20);
-        x.gate(2);
-        x.link(2, 0, 1);
-        x.link(2, 1, 1);
-        x.after(0);
-        for (int deal = 0; deal < 4; deal++) x.offer(0, 1, 5);
-        for (int deal = 0; deal < 4; deal++) x.terms(deal, deal, 0);
+    private static void lowestOfNoAccount() {
+        Calls x = withSixEntries();
+        x.due(-1, "lowest(-1, 0, 0) lowest(4, 0, 0) lowest(6, 0, 6) lowest(MIN, 0, 0) lowest(MAX, 0, 0)");
+        x.due(0, "lowest(3, 0, 0)");
+    }
+
+    private static void lowestFromBelowZero() {
+        Calls x = withSixEntries();
+        x.due(-2, "lowest(0, -1, 0) lowest(0, -1, -1) lowest(0, -1, 6) lowest(0, MIN, 0) lowest(0, MIN, MIN) lowest(0, MIN, MAX)");
+        x.due(0, "lowest(0, 0, 0)");
+    }
+
+    private static void lowestOfNoRange() {
+        Calls x = withSixEntries();
+        x.due(-2, "lowest(0, 1, 0) lowest(0, 6, 5) lowest(0, 0, -1) lowest(0, 0, MIN) lowest(0, MAX, MIN) lowest(0, MAX, 6)");
+        x.due(10, "lowest(0, 5, 5) lowest(0, 5, 6)");
+    }
+
+    private static void lowestPastTheEntries() {
+        Calls x = withSixEntries();
+        x.due(-2, "lowest(0, 0, 7) lowest(0, 6, 7) lowest(0, 7, 7) lowest(0, 0, MAX) lowest(0, MAX, MAX)");
+        x.due(10, "lowest(0, 6, 6)");
+        Calls full = withAllEntries();
+        full.due(-2, "lowest(0, 0, 65) lowest(0, 64, 65) lowest(0, 65, 65)");
+        full.due(28000, "lowest(0, 64, 64)");
+        full.due(12000, "lowest(1, 64, 64)");
+    }
+
+    private static void lowestWithoutEntries() {
+        Calls x = new Calls(2);
+        x.due(0, "lowest(0, 0, 0) lowest(1, 0, 0)");
+        x.due(-2, "lowest(0, 0, 1) lowest(0, 1, 1) lowest(0, -1, 0) lowest(0, 1, 0)");
+    }
+
+    private static Calls withDealReleasedBy(String node) {
+        Calls x = new Calls(2);
+        x.taken(node + " gate(20) offer(0, 1, 5) terms(0, 0, 1)");
+        return x;
+    }
+
+    private static void forecastOfToday() {
+        Calls x = withDealReleasedBy("after(3)");
+        x.untilDay(2);
+        x.due(3, "forecast(0)");
+        x.taken("advance(1)");
+        x.due(3, "forecast(0)");
+        x.taken("advance(1)");
+        x.due(4, "forecast(0)");
+        x.untilDay(2000);
+        x.due(2000, "forecast(0)");
+    }
+
+    private static void forecastOfTheFirstDay() {
+        Calls x = new Calls(2);
+        x.taken("window(7, 2) after(20) gate(2) link(2, 0, 1) link(2, 1, 1)");
+        for (int deal = 0; deal < 3; deal++) x.taken("offer(0, 1, 5) terms(" + deal + ", " + deal + ", 0)");
         for (int day = 0; day <= 60; day++) {
             int open = day % 7 <= 1 ? day : day + 7 - day % 7;
-            Checks.due("forecast(0) on day " + day, x.forecast(0), open);
-            Checks.due("forecast(1) on day " + day, x.forecast(1), Math.max(day, 20));
-            Checks.due("forecast(2) on day " + day, x.forecast(2), Math.max(open, 21));
-            Checks.due("forecast(3) on day " + day, x.forecast(3), day);
-            x.advance(1);
+            x.due(open, "forecast(0)");
+            x.due(Math.max(day, 20), "forecast(1)");
+            x.due(Math.max(open, 21), "forecast(2)");
+            x.taken("advance(1)");
         }
-        Checks.due("today() after forecasts", x.today(), 61);
-        Checks.due("entries() after forecasts", x.entries(), 0);
     }
 
-    private static void promise29ForecastReaches200Days() {
-        ConditionEscrow x = new ConditionEscrow(2);
-        x.after(200);
-        x.after(201);
-        x.after(1000);
-        for (int deal = 0; deal < 3; deal++) x.offer(0, 1, 5);
-        for (int deal = 0; deal < 3; deal++) x.terms(deal, deal, 0);
-        Checks.due("forecast(0)", x.forecast(0), 200);
-        Checks.due("forecast(1)", x.forecast(1), -3);
-        Checks.due("forecast(2)", x.forecast(2), -3);
-        x.advance(1);
-        Checks.due("forecast(1) a day later", x.forecast(1), 201);
-        for (int i = 0; i < 33; i++) x.advance(60);
-        x.advance(19);
-        Checks.due("today()", x.today(), 2000);
-        Checks.due("forecast(2) on day 2000", x.forecast(2), 2000);
-        x.window(17, 1);
-        x.offer(0, 1, 5);
-        x.terms(3, 3, 0);
-        Checks.due("forecast(3): past the last day that may come", x.forecast(3), 2006);
+    private static void forecastIn200Days() {
+        Calls x = withDealReleasedBy("after(201)");
+        x.due(-3, "forecast(0)");
+        x.taken("advance(1)");
+        x.due(201, "forecast(0)");
+        Calls y = withDealReleasedBy("after(1000)");
+        y.untilDay(799);
+        y.due(-3, "forecast(0)");
+        y.taken("advance(1)");
+        y.due(1000, "forecast(0)");
+        Calls z = withDealReleasedBy("after(200)");
+        z.due(200, "forecast(0)");
     }
 
-    private static void promise29ForecastWhateverTheState() {
-        ConditionEscrow x = new ConditionEscrow(2);
-        x.after(9);
-        x.after(3);
-        x.gate(1);
-        for (int deal = 0; deal < 3; deal++) x.offer(0, 1, 5);
-        for (int deal = 0; deal < 3; deal++) x.terms(deal, deal, 1);
-        x.cancel(0);
-        x.deposit(0, 10);
-        Checks.due("forecast(0), cancelled with terms", x.forecast(0), 9);
-        Checks.due("forecast(1), held", x.forecast(1), 3);
-        x.advance(4);
-        Checks.due("state(1)", x.state(1), ConditionEscrow.RELEASED);
-        Checks.due("forecast(1), released", x.forecast(1), 4);
-        Checks.due("state(2)", x.state(2), ConditionEscrow.REFUNDED);
-        Checks.due("forecast(2), refunded", x.forecast(2), -3);
+    private static void forecastPastDay2000() {
+        Calls x = withDealReleasedBy("window(17, 1)");
+        x.untilDay(1989);
+        x.due(1989, "forecast(0)");
+        x.taken("advance(1)");
+        x.due(2006, "forecast(0)");
+        x.taken("advance(10)");
+        x.due(2006, "forecast(0)");
+        // Both windows are open together every 220 days: on day 1980, and next on day 2200.
+        Calls y = new Calls(2);
+        y.taken("window(11, 1) window(20, 1) gate(2) link(2, 0, 1) link(2, 1, 1) offer(0, 1, 5) terms(0, 2, 0)");
+        y.untilDay(1999);
+        y.due(-3, "forecast(0)");
+        y.taken("advance(1)");
+        y.due(2200, "forecast(0)");
     }
 
-    private static void promise29ForecastKeepsMarks() {
-        ConditionEscrow x = new ConditionEscrow(2);
-        x.signer(2);
-        x.after(4);
-        x.gate(2);
-        x.link(2, 0, 1);
-        x.link(2, 1, 1);
-        x.offer(0, 1, 5);
-        x.terms(0, 2, 0);
-        Checks.due("forecast(0) with the mark off", x.forecast(0), -3);
-        x.mark(2, 1);
-        Checks.due("forecast(0) with the mark on", x.forecast(0), 4);
-        x.link(2, 1, -1);
-        Checks.due("forecast(0) with a further input", x.forecast(0), -3);
+    private static void forecastIsOfTheReleaseNode() {
+        Calls x = new Calls(2);
+        x.taken("after(9) after(3) offer(0, 1, 5) offer(0, 1, 5) terms(0, 0, 1) terms(1, 1, 0)");
+        x.due(9, "forecast(0)");
+        x.due(3, "forecast(1)");
     }
 
-    private static void objectsAreApart() {
-        ConditionEscrow x = new ConditionEscrow(2);
-        ConditionEscrow y = new ConditionEscrow(3);
-        x.signer(0);
-        x.mark(0, 1);
-        x.deposit(0, 5);
-        x.advance(3);
-        x.offer(0, 1, 1);
-        Checks.due("y.nodes()", y.nodes(), 0);
-        Checks.due("y.balance(0)", y.balance(0), 0);
-        Checks.due("y.today()", y.today(), 0);
-        Checks.due("y.deals()", y.deals(), 0);
-        y.signer(0);
-        Checks.due("y.truth(0)", y.truth(0), 0);
-        Checks.due("x.truth(0)", x.truth(0), 1);
+    private static void forecastKeepsMarksAndInputs() {
+        Calls x = new Calls(2);
+        x.taken("signer(2) after(4) gate(2) link(2, 0, 1) link(2, 1, 1) offer(0, 1, 5) terms(0, 2, 0)");
+        x.due(-3, "forecast(0)");
+        x.taken("mark(2, 1)");
+        x.due(4, "forecast(0)");
+        x.taken("link(2, 1, -1)");
+        x.due(-3, "forecast(0)");
+        x.taken("link(2, 0, 1)");
+        x.due(0, "forecast(0)");
+        x.taken("mark(2, 0)");
+        x.due(-3, "forecast(0)");
+    }
+
+    private static void forecastInEveryState() {
+        Calls x = new Calls(2);
+        x.taken("after(9) after(3) gate(1) offer(0, 1, 5) offer(0, 1, 5) offer(0, 1, 5) offer(0, 1, 1000) offer(0, 1, 5)");
+        x.taken("terms(0, 0, 2) terms(1, 1, 2) terms(2, 0, 1) terms(3, 0, 1) terms(4, 0, 1) cancel(4) deposit(0, 15) advance(4)");
+        int[] states = {ConditionEscrow.HELD, ConditionEscrow.RELEASED, ConditionEscrow.REFUNDED, ConditionEscrow.WAITING, ConditionEscrow.CANCELLED};
+        int[] firsts = {9, 4, 9, 9, 9};
+        for (int deal = 0; deal < 5; deal++) {
+            x.due(states[deal], "state(" + deal + ")");
+            x.due(firsts[deal], "forecast(" + deal + ")");
+        }
+    }
+
+    private static void forecastOfNoDeal() {
+        Calls x = new Calls(2);
+        x.due(-1, "forecast(0) forecast(-1)");
+        x.taken("after(0) offer(0, 1, 5) offer(0, 1, 5) terms(0, 0, 0) terms(1, 0, 0)");
+        x.due(0, "forecast(0) forecast(1)");
+        x.due(-1, "forecast(-1) forecast(2) forecast(11) forecast(12) forecast(MIN) forecast(MAX)");
+    }
+
+    private static void forecastWithoutTerms() {
+        Calls x = new Calls(2);
+        x.taken("offer(0, 1, 5)");
+        x.due(-2, "forecast(0)");
+        x.taken("after(0) offer(0, 1, 5)");
+        x.due(-2, "forecast(0) forecast(1)");
+        x.taken("cancel(0)");
+        x.due(-2, "forecast(0)");
+        x.taken("terms(1, 0, 0)");
+        x.due(0, "forecast(1)");
+        x.due(-2, "forecast(0)");
+    }
+
+    private static void forecastOfNever() {
+        Calls x = withDealReleasedBy("signer(0)");
+        x.due(-3, "forecast(0)");
+        x.taken("mark(0, 1)");
+        x.due(0, "forecast(0)");
+        Calls y = withDealReleasedBy("gate(1)");
+        y.due(-3, "forecast(0)");
+        Calls z = withDealReleasedBy("gate(0)");
+        z.due(0, "forecast(0)");
     }
 }

@@ -1,8 +1,10 @@
 import java.lang.reflect.Constructor;
 import java.lang.reflect.Field;
+import java.lang.reflect.InvocationTargetException;
 import java.lang.reflect.Method;
 import java.lang.reflect.Modifier;
 import java.util.Arrays;
+import java.util.Comparator;
 import java.util.HashMap;
 import java.util.HashSet;
 import java.util.Map;
@@ -23,6 +25,7 @@ public final class FaceTest {
         constructorsAreTheDocuments();
         methodsAreTheDocuments();
         fieldsAreNumbersAndArrays();
+        noCallEverThrows();
         Checks.end();
     }
 
@@ -89,6 +92,31 @@ public final class FaceTest {
             }
         }
         Checks.holds("at most forty fields", ofObject <= 40);
+    }
+
+    /** Rule 7 knows no last call: past the 512th an answer is free, but an end is still due. */
+    private static void noCallEverThrows() throws IllegalAccessException {
+        int[] numbers = {Integer.MIN_VALUE, -20, -1, 0, 1, 2, 3, 5, 6, 7, 11, 12, 20, 23, 24, 60, 64, 1000, 2000, Integer.MAX_VALUE};
+        Method[] methods = ConditionEscrow.class.getMethods();
+        Arrays.sort(methods, Comparator.comparing(Method::getName));
+        ConditionEscrow x = new ConditionEscrow(6);
+        long seed = 1;
+        for (int call = 0; call < 200000 && Checks.allRight(); call++) {
+            Method method = methods[call % methods.length];
+            if (method.getDeclaringClass() != ConditionEscrow.class) continue;
+            Object[] args = new Object[method.getParameterCount()];
+            for (int i = 0; i < args.length; i++) {
+                seed = seed * 6364136223846793005L + 1442695040888963407L;
+                args[i] = numbers[(int) ((seed >>> 33) % numbers.length)];
+            }
+            try {
+                method.invoke(x, args);
+            } catch (InvocationTargetException e) {
+                Checks.holds(method.getName() + Arrays.toString(args) + " threw " + e.getCause(), false);
+            }
+        }
+        Checks.due("nodes() after all these calls", x.nodes(), 24);
+        Checks.due("deals() after all these calls", x.deals(), 12);
     }
 
     private static boolean isConstant(Field field) {
