@@ -166,7 +166,7 @@ public final class AccountTest {
         for (int k = 0; k < objects.length; k++) {
             objects[k].due(want, question + "(" + counts[k] + ")");
             for (int i : never) objects[k].due(want, question + "(" + i + ")");
-            if (k > 0) Checks.holds("there is a last entry for " + question, objects[k].answer(question, counts[k] - 1) != want);
+            if (k > 0) Checks.holds("there is a last entry for " + question, objects[k].answerOf(question, counts[k] - 1) != want);
         }
     }
 
@@ -218,7 +218,7 @@ public final class AccountTest {
         Calls x = withSixEntries();
         x.taken("deposit(1, 3)");
         for (int account = 0; account < 4; account++) {
-            int now = x.answer("balance", account);
+            int now = x.answerOf("balance", account);
             x.due(now, "balanceOn(" + account + ", 12) balanceOn(" + account + ", 13) balanceOn(" + account + ", MAX)");
         }
         x.due(30, "balanceOn(1, 11)");

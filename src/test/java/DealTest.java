@@ -14,6 +14,7 @@ public final class DealTest {
         Checks.promise(8, "-2 if amount is not in 1 .. 1000", DealTest::depositOutOfRange);
         Checks.promise(8, "-3 if 40 deposits have been accepted", DealTest::depositAfter40);
         Checks.promise(8, "-3 if 40 deposits have been accepted", DealTest::refusedDepositsAreNotAccepted);
+        Checks.promise(8, "-3 if 40 deposits have been accepted", DealTest::movesAreNoDeposits);
         Checks.promise(8, "otherwise answers how many moves were made", DealTest::depositCountsMoves);
         Checks.promise(9, "Makes a deal in state DRAFT, without terms", DealTest::offerIsADraft);
         Checks.promise(9, "-1 if payer or payee is not the number of an account", DealTest::offerByNoAccount);
@@ -122,6 +123,14 @@ public final class DealTest {
         x.due(-3, "deposit(0, 1)");
     }
 
+    private static void movesAreNoDeposits() {
+        Calls x = withWaitingDeals();
+        x.due(3, "deposit(0, 30)");
+        for (int i = 1; i < 40; i++) x.due(0, "deposit(0, 1)");
+        x.due(43, "entries()");
+        x.due(-3, "deposit(0, 1)");
+    }
+
     private static void depositCountsMoves() {
         Calls x = withWaitingDeals();
         x.due(0, "deposit(0, 9) deposit(1, 50)");
@@ -156,7 +165,8 @@ public final class DealTest {
     private static void offerToItself() {
         Calls x = new Calls(3);
         x.due(-2, "offer(0, 0, 1) offer(1, 1, 1) offer(2, 2, 1)");
-        x.due(0, "deals()");
+        x.due(0, "deals() offer(0, 1, 1)");
+        x.due(1, "offer(2, 1, 1)");
     }
 
     private static void offerOutOfRange() {

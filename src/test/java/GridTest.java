@@ -57,8 +57,8 @@ public final class GridTest {
                 args[i] = EDGES[left % EDGES.length];
                 left /= EDGES.length;
             }
-            int got = x.answer(name, args);
-            Checks.due(name + Arrays.toString(args), got, model.answer(name, args));
+            int got = x.answerOf(name, args);
+            Checks.due(name + Arrays.toString(args), got, model.answerOf(name, args));
             boolean isTaken = isChanging && got >= 0;
             if (isTaken) lookAtTheState();
             if (isTaken || x.made() + CALLS_FOR_A_LOOK > Calls.MOST_CALLS) begin();
@@ -67,11 +67,11 @@ public final class GridTest {
 
     private void lookAtTheState() {
         StringBuilder look = new StringBuilder("today() nodes() deals() held() entries() ");
-        int nodes = model.answer("nodes");
+        int nodes = model.answer("nodes()");
         for (int node = 0; node < nodes; node++) look.append("truth(" + node + ") score(" + node + ") ");
         for (int deal = 0; deal < 12; deal++) look.append("state(" + deal + ") ");
         for (int account = 0; account < States.ACCOUNTS; account++) look.append("balance(" + account + ") ");
-        int last = model.answer("entries") - 1;
+        int last = model.answer("entries()") - 1;
         look.append("entryKind(I) entryAccount(I) entryAmount(I) entryDeal(I) entryDay(I)".replace("I", "" + last));
         Calls.same(x, model, look.toString());
     }

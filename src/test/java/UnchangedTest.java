@@ -1,4 +1,5 @@
 import java.util.List;
+import java.util.function.Consumer;
 import java.util.function.Function;
 
 /**
@@ -122,25 +123,24 @@ public final class UnchangedTest {
         refused(FULL, -2, "advance(1) advance(60)");
     }
 
+    // Each call is tried alone, since two wrong changes might undo each other.
+
     private static void refused(Function<Object, Calls> state, int code, String calls) {
-        String[] looks = {entryQuestions(), otherQuestions(), furtherCalls()};
-        for (String look : looks) {
-            Calls tried = state.apply(new ConditionEscrow(States.ACCOUNTS));
-            Calls untried = state.apply(new ConditionEscrow(States.ACCOUNTS));
-            tried.due(code, calls);
-            Calls.same(tried, untried, look);
-        }
+        for (String call : Calls.each(calls)) changesNothing(state, call, tried -> tried.due(code, call));
     }
 
     private static void asked(String questions) {
-        String[] looks = {questions, entryQuestions(), otherQuestions(), furtherCalls()};
         for (Function<Object, Calls> state : List.of(FRESH, MIDDLE, FULL, ENDED)) {
-            for (String look : looks) {
-                Calls asked = state.apply(new ConditionEscrow(States.ACCOUNTS));
-                Calls unasked = state.apply(new ConditionEscrow(States.ACCOUNTS));
-                Calls.same(asked, asked, questions);
-                Calls.same(asked, unasked, look);
-            }
+            for (String question : Calls.each(questions)) changesNothing(state, question, tried -> tried.answer(question));
+        }
+    }
+
+    private static void changesNothing(Function<Object, Calls> state, String call, Consumer<Calls> trial) {
+        for (String look : List.of(call, entryQuestions(), otherQuestions(), furtherCalls())) {
+            Calls tried = state.apply(new ConditionEscrow(States.ACCOUNTS));
+            Calls untried = state.apply(new ConditionEscrow(States.ACCOUNTS));
+            trial.accept(tried);
+            Calls.same(tried, untried, look);
         }
     }
 
