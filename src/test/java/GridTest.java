@@ -32,7 +32,7 @@ public final class GridTest {
     }
 
     public static void main(String[] args) {
-        List<Function<Object, Calls>> states = List.of(States::fresh, States::middle, States::full, States::ended);
+        List<Function<Object, Calls>> states = List.of(States::fresh, States::middle, States::fullOnTheLastDay, States::ended);
         for (Function<Object, Calls> state : states) {
             for (String method : CHANGING) new GridTest(state).allMixes(method, true);
             for (String method : QUESTIONS) new GridTest(state).allMixes(method, false);

@@ -158,7 +158,7 @@ public final class OrderTest {
     private static void advanceDaysBeforeLastDay() {
         Calls x = full();
         x.due(-1, "advance(61) advance(2000) advance(MAX)");
-        x.due(-2, "advance(60)");
+        x.due(-2, "advance(16) advance(60)");
     }
 
     private static void lowestAccountBeforeRange() {

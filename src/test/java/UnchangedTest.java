@@ -4,13 +4,21 @@ import java.util.function.Function;
 
 /**
  * "No question changes anything. A refused call changes nothing.", for every method and every way to refuse: after
- * such a call an object answers all that one answers which never got it.
+ * such a call an object answers all that the model answers, which never got that call.
  */
 public final class UnchangedTest {
     private static final Function<Object, Calls> FRESH = States::fresh;
     private static final Function<Object, Calls> MIDDLE = States::middle;
     private static final Function<Object, Calls> FULL = States::full;
+    private static final Function<Object, Calls> LAST_DAY = States::fullOnTheLastDay;
     private static final Function<Object, Calls> ENDED = States::ended;
+
+    // Where all is full at once, a wrong change might find no room; so one thing alone is full in each of these.
+    private static final Function<Object, Calls> NO_NODE_LEFT = middleAnd(17, "gate(1)");
+    private static final Function<Object, Calls> NO_INPUT_LEFT = middleAnd(3, "link(6, 1, 1)");
+    private static final Function<Object, Calls> NO_DEPOSIT_LEFT = middleAnd(37, "deposit(2, 1)");
+    private static final Function<Object, Calls> NO_DEAL_LEFT = middleAnd(6, "offer(0, 1, 5)");
+    private static final Function<Object, Calls> FEW_DAYS_LEFT = middleAnd(33, "advance(60)");
 
     private static final String REFUSED = "A refused call changes nothing";
     private static final String ASKED = "No question changes anything";
@@ -47,15 +55,25 @@ public final class UnchangedTest {
         Checks.end();
     }
 
+    private static Function<Object, Calls> middleAnd(int times, String calls) {
+        return object -> {
+            Calls x = States.middle(object);
+            x.taken(times, calls);
+            return x;
+        };
+    }
+
     private static void refusedSigner() {
         refused(FRESH, -1, "signer(-1) signer(8) signer(MIN) signer(MAX)");
         refused(MIDDLE, -1, "signer(-1) signer(8) signer(MIN) signer(MAX)");
+        refused(NO_NODE_LEFT, -2, "signer(0) signer(7)");
         refused(FULL, -2, "signer(0) signer(7)");
     }
 
     private static void refusedAfter() {
         refused(FRESH, -1, "after(-1) after(1001) after(MIN) after(MAX)");
         refused(MIDDLE, -1, "after(-1) after(1001) after(MIN) after(MAX)");
+        refused(NO_NODE_LEFT, -2, "after(0) after(1000)");
         refused(FULL, -2, "after(0) after(1000)");
     }
 
@@ -63,12 +81,14 @@ public final class UnchangedTest {
         refused(FRESH, -1, "window(1, 1) window(21, 1) window(MIN, 1) window(MAX, 1)");
         refused(MIDDLE, -1, "window(1, 1) window(21, 1) window(MIN, 1) window(MAX, 1)");
         refused(MIDDLE, -2, "window(7, 0) window(7, 7) window(7, MIN) window(7, MAX)");
+        refused(NO_NODE_LEFT, -3, "window(2, 1) window(20, 19)");
         refused(FULL, -3, "window(2, 1) window(20, 19)");
     }
 
     private static void refusedGate() {
         refused(FRESH, -1, "gate(-21) gate(21) gate(MIN) gate(MAX)");
         refused(MIDDLE, -1, "gate(-21) gate(21) gate(MIN) gate(MAX)");
+        refused(NO_NODE_LEFT, -2, "gate(0) gate(20) gate(-20)");
         refused(FULL, -2, "gate(0) gate(20) gate(-20)");
     }
 
@@ -77,6 +97,7 @@ public final class UnchangedTest {
         refused(MIDDLE, -1, "link(-1, 0, 1) link(2, 0, 1) link(5, 0, 1) link(7, 0, 1) link(MAX, 0, 1)");
         refused(MIDDLE, -2, "link(6, -1, 5) link(6, 6, 5) link(1, 2, 5) link(6, MIN, 5) link(6, MAX, 5)");
         refused(MIDDLE, -3, "link(6, 0, 0) link(6, 0, 6) link(6, 0, -6) link(6, 0, MIN) link(6, 0, MAX)");
+        refused(NO_INPUT_LEFT, -4, "link(6, 0, 5) link(6, 0, -5)");
         refused(FULL, -4, "link(6, 0, 5) link(6, 0, -5) link(23, 0, 1)");
     }
 
@@ -89,6 +110,7 @@ public final class UnchangedTest {
         refused(FRESH, -1, "deposit(-1, 5) deposit(3, 5)");
         refused(MIDDLE, -1, "deposit(-1, 5) deposit(3, 5) deposit(MIN, 5) deposit(MAX, 5)");
         refused(MIDDLE, -2, "deposit(0, 0) deposit(0, -5) deposit(0, 1001) deposit(0, MIN) deposit(0, MAX)");
+        refused(NO_DEPOSIT_LEFT, -3, "deposit(0, 5) deposit(1, 1) deposit(2, 1000)");
         refused(FULL, -3, "deposit(0, 5) deposit(1, 1) deposit(2, 1000)");
         refused(ENDED, -3, "deposit(0, 10) deposit(1, 10)");
     }
@@ -98,6 +120,7 @@ public final class UnchangedTest {
         refused(MIDDLE, -1, "offer(-1, 0, 5) offer(3, 0, 5) offer(0, -1, 5) offer(0, 3, 5) offer(MIN, MAX, 5)");
         refused(MIDDLE, -2, "offer(0, 0, 5) offer(2, 2, 5)");
         refused(MIDDLE, -3, "offer(0, 1, 0) offer(0, 1, 1001) offer(0, 1, MIN) offer(0, 1, MAX)");
+        refused(NO_DEAL_LEFT, -4, "offer(0, 1, 5) offer(2, 1, 1000)");
         refused(FULL, -4, "offer(0, 1, 5) offer(2, 1, 1000)");
     }
 
@@ -120,7 +143,9 @@ public final class UnchangedTest {
     private static void refusedAdvance() {
         refused(FRESH, -1, "advance(0) advance(-1) advance(61) advance(MIN) advance(MAX)");
         refused(MIDDLE, -1, "advance(0) advance(-1) advance(61) advance(MIN) advance(MAX)");
-        refused(FULL, -2, "advance(1) advance(60)");
+        refused(FEW_DAYS_LEFT, -2, "advance(18) advance(60)");
+        refused(FULL, -2, "advance(16) advance(60)");
+        refused(LAST_DAY, -2, "advance(1) advance(60)");
     }
 
     // Each call is tried alone, since two wrong changes might undo each other.
@@ -138,7 +163,7 @@ public final class UnchangedTest {
     private static void changesNothing(Function<Object, Calls> state, String call, Consumer<Calls> trial) {
         for (String look : List.of(call, entryQuestions(), otherQuestions(), furtherCalls())) {
             Calls tried = state.apply(new ConditionEscrow(States.ACCOUNTS));
-            Calls untried = state.apply(new ConditionEscrow(States.ACCOUNTS));
+            Calls untried = state.apply(new Model(States.ACCOUNTS));
             trial.accept(tried);
             Calls.same(tried, untried, look);
         }
@@ -168,13 +193,14 @@ public final class UnchangedTest {
     /** Calls that bring out what no question shows, such as how many inputs or deposits there is still room for. */
     private static String furtherCalls() {
         StringBuilder all = new StringBuilder();
-        for (int i = 0; i < 7; i++) all.append("link(1, 0, 1) link(6, 5, 1) link(23, 0, 1) score(1) score(6) score(23) ");
+        for (int i = 0; i < 7; i++) all.append("link(1, 0, 1) link(6, 0, 1) link(23, 0, 1) score(1) score(6) score(23) truth(6) ");
         all.append("window(5, 2) signer(7) after(2) gate(1) gate(1) nodes() ");
         for (int node = 0; node <= 24; node++) all.append("truth(" + node + ") ");
         for (int deal = 0; deal <= 12; deal++) all.append("offer(0, 1, 5) terms(" + deal + ", 6, 1) ");
         for (int i = 0; i <= 40; i++) all.append("deposit(0, 5) ");
         for (int s = 0; s < 8; s++) all.append("mark(" + s + ", 1) ");
-        all.append("advance(1) advance(5) held() entries() today() ");
+        for (int day = 0; day < 8; day++) all.append("advance(1) truth(4) truth(6) ");
+        all.append("held() entries() today() ");
         for (int deal = 0; deal <= 12; deal++) all.append("cancel(" + deal + ") state(" + deal + ") forecast(" + deal + ") ");
         all.append("balance(0) balance(1) balance(2) lowest(0, 0, 20) balanceOn(0, 3)");
         return all.toString();

@@ -23,21 +23,28 @@ final class States {
     }
 
     /**
-     * 24 nodes, 12 deals, 40 deposits, day 2000: node 0 is true and node 1 false; deals 0 to 5 are each in the state of
-     * their own number; signer 0 releases deals 1 and 2; gates 6 and 23 have six inputs.
+     * 24 nodes, 12 deals, 40 deposits, day 1985: node 0 is true and node 1 false; deals 0 to 5 are each in the state of
+     * their own number; signer 0 releases deals 1 and 2; signer 7 releases deal 6, which brings account 0 just what
+     * deal 1 waits for; gates 6 and 23 have six inputs, and signer 7 brings gate 6 just to its threshold.
      */
     static Calls full(Object object) {
         Calls x = new Calls(object);
-        x.taken("after(0) gate(20) signer(0) signer(7) window(7, 2) after(1000) gate(2)");
+        x.taken("after(0) gate(20) signer(0) signer(7) window(7, 2) after(1000) gate(6)");
         x.taken(16, "gate(1)");
         x.taken("gate(0)");
         x.taken(6, "link(6, 3, 1) link(23, 22, -1)");
         addDealInEveryState(x);
-        x.taken("offer(0, 1, 9) offer(0, 2, 9) offer(1, 0, 9) offer(1, 2, 9) offer(2, 0, 9) offer(2, 1, 9)");
-        x.taken("terms(9, 0, 1) terms(11, 1, 0) deposit(1, 9)");
+        x.taken("offer(1, 0, 5) offer(0, 2, 9) offer(1, 2, 9) offer(2, 1, 9) offer(2, 0, 9) offer(0, 1, 9)");
+        x.taken("terms(6, 3, 1) terms(8, 0, 1) terms(9, 1, 0) deposit(1, 9)");
         x.taken(37, "deposit(2, 1000)");
-        x.untilDay(2000);
+        x.untilDay(1985);
         for (int deal = 0; deal < 6; deal++) x.due(deal, "state(" + deal + ")");
+        return x;
+    }
+
+    static Calls fullOnTheLastDay(Object object) {
+        Calls x = full(object);
+        x.untilDay(2000);
         return x;
     }
 
