@@ -170,15 +170,8 @@ public final class AccountTest {
         }
     }
 
-    /** 40 deposits and 24 moves; the last entry is the release of deal 11 on day 0. */
     private static Calls withAllEntries() {
-        Calls x = new Calls(2);
-        x.taken("signer(0) gate(1)");
-        for (int deal = 0; deal < 12; deal++) x.taken("offer(0, 1, 1000) terms(" + deal + ", 0, 1)");
-        x.taken(40, "deposit(0, 1000)");
-        x.due(12, "mark(0, 1)");
-        x.due(64, "entries()");
-        return x;
+        return States.ended(new ConditionEscrow(States.ACCOUNTS));
     }
 
     private static void balanceOnDaysOfEntries() {
@@ -291,8 +284,8 @@ public final class AccountTest {
         x.due(10, "lowest(0, 6, 6)");
         Calls full = withAllEntries();
         full.due(-2, "lowest(0, 0, 65) lowest(0, 64, 65) lowest(0, 65, 65)");
-        full.due(28000, "lowest(0, 64, 64)");
-        full.due(12000, "lowest(1, 64, 64)");
+        full.due(340, "lowest(0, 64, 64)");
+        full.due(60, "lowest(1, 64, 64)");
     }
 
     private static void lowestWithoutEntries() {
@@ -388,7 +381,9 @@ public final class AccountTest {
         Calls x = new Calls(2);
         x.taken("after(9) after(3) gate(1) offer(0, 1, 5) offer(0, 1, 5) offer(0, 1, 5) offer(0, 1, 1000) offer(0, 1, 5)");
         x.taken("terms(0, 0, 2) terms(1, 1, 2) terms(2, 0, 1) terms(3, 0, 1) terms(4, 0, 1) cancel(4) deposit(0, 15) advance(4)");
-        int[] states = {ConditionEscrow.HELD, ConditionEscrow.RELEASED, ConditionEscrow.REFUNDED, ConditionEscrow.WAITING, ConditionEscrow.CANCELLED};
+        int[] states = {
+            ConditionEscrow.HELD, ConditionEscrow.RELEASED, ConditionEscrow.REFUNDED, ConditionEscrow.WAITING, ConditionEscrow.CANCELLED,
+        };
         int[] firsts = {9, 4, 9, 9, 9};
         for (int deal = 0; deal < 5; deal++) {
             x.due(states[deal], "state(" + deal + ")");
@@ -422,9 +417,9 @@ public final class AccountTest {
         x.due(-3, "forecast(0)");
         x.taken("mark(0, 1)");
         x.due(0, "forecast(0)");
-        Calls y = withDealReleasedBy("gate(1)");
-        y.due(-3, "forecast(0)");
-        Calls z = withDealReleasedBy("gate(0)");
-        z.due(0, "forecast(0)");
+        withDealReleasedBy("gate(1)").due(-3, "forecast(0)");
+        withDealReleasedBy("gate(0)").due(0, "forecast(0)");
+        withDealReleasedBy("after(201)").due(-3, "forecast(0)");
+        withDealReleasedBy("after(1000)").due(-3, "forecast(0)");
     }
 }

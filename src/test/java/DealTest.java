@@ -56,13 +56,7 @@ public final class DealTest {
 
     /** Deals 0 to 5, each in the state of its own number; node 0 is true, node 1 false, account 0 is left with nothing. */
     private static Calls withADealInEveryState() {
-        Calls x = new Calls(2);
-        x.taken("after(0) gate(1)");
-        x.taken(6, "offer(0, 1, 5)");
-        x.taken("deposit(0, 5) terms(4, 1, 0) terms(3, 0, 1) deposit(0, 5) terms(2, 1, 1) terms(1, 0, 1) cancel(5)");
-        int[] states = {DRAFT, WAITING, HELD, RELEASED, REFUNDED, CANCELLED};
-        for (int deal = 0; deal < states.length; deal++) x.due(states[deal], "state(" + deal + ")");
-        return x;
+        return States.middle(new ConditionEscrow(States.ACCOUNTS));
     }
 
     private static void depositJoinsTheBalance() {

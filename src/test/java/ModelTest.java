@@ -1,12 +1,14 @@
-/** Many mixed runs, each of at most 512 calls, answered by the class and by the model of the document. */
+/** Many mixed runs, each of 512 calls, answered by the class and by the model of the document. */
 public final class ModelTest {
     private static final int RUNS = 4000;
-    private static final int CALLS = 500;
+    private static final int CALLS = Calls.MOST_CALLS;
     private static final int METHODS = 28;
     private static final int CHANGING = 11;
     private static final int ADVANCE = 10;
 
-    private static final int[] FAR = {Integer.MIN_VALUE, Integer.MIN_VALUE + 1, -1000, -2, -1, 0, 1, 64, 1001, 2001, Integer.MAX_VALUE - 1, Integer.MAX_VALUE};
+    private static final int[] FAR = {
+        Integer.MIN_VALUE, Integer.MIN_VALUE + 1, -1000, -2, -1, 0, 1, 64, 1001, 2001, Integer.MAX_VALUE - 1, Integer.MAX_VALUE,
+    };
 
     private long seed;
     private int askingPercent;

@@ -7,6 +7,11 @@ public final class TermsTest {
     private static final int REFUNDED = ConditionEscrow.REFUNDED;
     private static final int CANCELLED = ConditionEscrow.CANCELLED;
 
+    private static final int DEPOSIT = ConditionEscrow.DEPOSIT;
+    private static final int FUND = ConditionEscrow.FUND;
+    private static final int RELEASE = ConditionEscrow.RELEASE;
+    private static final int REFUND = ConditionEscrow.REFUND;
+
     public static void main(String[] args) {
         Checks.sentence("What it is", "An object is used for at most 512 calls", TermsTest::call512OfManyMarks);
         Checks.sentence("What it is", "An object is used for at most 512 calls", TermsTest::call512OfManyQuestions);
@@ -92,7 +97,8 @@ public final class TermsTest {
             x.due(0, "offer(0, " + last + ", 1)");
             x.due(1, "offer(" + last + ", 0, 1)");
             x.due(-1, "balance(-1) balanceOn(-1, 0) lowest(-1, 0, 0) deposit(-1, 1) offer(0, -1, 1) offer(-1, 0, 1)");
-            x.due(-1, ("balance(N) balanceOn(N, 0) lowest(N, 0, 0) deposit(N, 1) offer(0, N, 1) offer(N, 0, 1)").replace("N", "" + accounts));
+            String pastTheLast = "balance(N) balanceOn(N, 0) lowest(N, 0, 0) deposit(N, 1) offer(0, N, 1) offer(N, 0, 1)";
+            x.due(-1, pastTheLast.replace("N", "" + accounts));
         }
     }
 
@@ -111,6 +117,9 @@ public final class TermsTest {
         x.due(1, "deposit(0, 1)");
         x.due(0, "balance(0) lowest(0, 0, 4)");
         x.due(WAITING, "state(2)");
+        x.taken("offer(1, 0, 10) terms(3, 0, 0) deposit(1, 9)");
+        x.due(9, "balance(1)");
+        x.due(0, "lowest(1, 0, 5)");
     }
 
     private static void nodesAreNumbered() {
@@ -188,14 +197,14 @@ public final class TermsTest {
 
     private static void windowsOnTheLastDays() {
         Calls x = new Calls(2);
-        x.taken("window(20, 1) window(20, 19) window(19, 5)");
+        x.taken("window(20, 1) window(20, 19) window(19, 5) window(7, 4) window(7, 5)");
         x.untilDay(1999);
-        // 1999 is 99 * 20 + 19, and 105 * 19 + 4.
-        x.due(0, "truth(0) truth(1)");
-        x.due(1, "truth(2)");
+        // 1999 is 99 * 20 + 19, and 105 * 19 + 4, and 285 * 7 + 4.
+        x.due(0, "truth(0) truth(1) truth(3)");
+        x.due(1, "truth(2) truth(4)");
         x.taken("advance(1)");
         x.due(1, "truth(0) truth(1)");
-        x.due(0, "truth(2)");
+        x.due(0, "truth(2) truth(3) truth(4)");
     }
 
     private static void inputsEndAtSix() {
@@ -334,7 +343,7 @@ public final class TermsTest {
         x.due(3, "balance(1)");
         x.due(0, "balance(0)");
         x.due(7, "held()");
-        x.due(ConditionEscrow.FUND, "entryKind(1)");
+        x.due(FUND, "entryKind(1)");
         x.due(1, "entryAccount(1)");
     }
 
@@ -346,7 +355,7 @@ public final class TermsTest {
         x.due(3, "balance(1)");
         x.due(7, "balance(0)");
         x.due(0, "held() entryAccount(2)");
-        x.due(ConditionEscrow.RELEASE, "entryKind(2)");
+        x.due(RELEASE, "entryKind(2)");
     }
 
     private static void releaseThoughRefundIsTrueToo() {
@@ -355,7 +364,7 @@ public final class TermsTest {
         x.due(1, "advance(1)");
         x.due(RELEASED, "state(0)");
         x.due(7, "balance(1)");
-        x.due(ConditionEscrow.RELEASE, "entryKind(2)");
+        x.due(RELEASE, "entryKind(2)");
     }
 
     private static void moveRefund() {
@@ -365,7 +374,7 @@ public final class TermsTest {
         x.due(REFUNDED, "state(0)");
         x.due(10, "balance(1)");
         x.due(0, "balance(0) held()");
-        x.due(ConditionEscrow.REFUND, "entryKind(2)");
+        x.due(REFUND, "entryKind(2)");
         x.due(1, "entryAccount(2)");
     }
 
@@ -428,7 +437,7 @@ public final class TermsTest {
         x.taken("after(0) gate(1) offer(0, 1, 5) offer(0, 1, 5) terms(0, 1, 0) terms(1, 0, 1)");
         x.due(4, "deposit(0, 5)");
         int[] deals = {-1, 0, 0, 1, 1};
-        int[] kinds = {ConditionEscrow.DEPOSIT, ConditionEscrow.FUND, ConditionEscrow.REFUND, ConditionEscrow.FUND, ConditionEscrow.RELEASE};
+        int[] kinds = {DEPOSIT, FUND, REFUND, FUND, RELEASE};
         for (int i = 0; i < 5; i++) {
             x.due(deals[i], "entryDeal(" + i + ")");
             x.due(kinds[i], "entryKind(" + i + ")");
@@ -465,7 +474,7 @@ public final class TermsTest {
 
     private static void entriesInOrder() {
         Calls x = withBothEndings();
-        int[] kinds = {ConditionEscrow.DEPOSIT, ConditionEscrow.FUND, ConditionEscrow.RELEASE, ConditionEscrow.DEPOSIT, ConditionEscrow.FUND, ConditionEscrow.REFUND};
+        int[] kinds = {DEPOSIT, FUND, RELEASE, DEPOSIT, FUND, REFUND};
         for (int i = 0; i < kinds.length; i++) x.due(kinds[i], "entryKind(" + i + ")");
         x.due(6, "entries()");
     }
@@ -476,7 +485,7 @@ public final class TermsTest {
         x.due(-2, "deposit(0, 0) deposit(0, 1001)");
         x.due(0, "entries() deposit(1, 5)");
         x.due(1, "entries() entryAccount(0)");
-        x.due(ConditionEscrow.DEPOSIT, "entryKind(0)");
+        x.due(DEPOSIT, "entryKind(0)");
         x.taken(39, "deposit(0, 1)");
         x.due(-3, "deposit(0, 1)");
         x.due(40, "entries()");
@@ -519,7 +528,7 @@ public final class TermsTest {
         x.due(-4, "offer(0, 1, 1)");
         x.due(0, "mark(0, 0) advance(60)");
         x.due(64, "entries()");
-        x.due(ConditionEscrow.RELEASE, "entryKind(63)");
+        x.due(RELEASE, "entryKind(63)");
         x.due(11, "entryDeal(63)");
         x.due(1000, "entryAmount(63)");
         x.due(1, "entryAccount(63)");
